@@ -1,0 +1,344 @@
+import java.util.ArrayList;
+import java.util.List;
+import java.util.Random;
+
+/** Runs of drawn calls (always the same ones) on the class and on the plain model: all answers must be the same. */
+public final class RandomRunsTest {
+    private static final int RUNS = 1500;
+    private static final String[] NAMES = {"a", "b", "c", "ab", "lake", "river", "k", "zz", "tab", "d", "e", "f", "g",
+        "h", "i", "j", "l", "m", "n", "o", "p", "q"};
+
+    private final Random random;
+    private final StoreStreams real = new StoreStreams();
+    private final PlainModel plain = new PlainModel();
+    private final List<String> told = new ArrayList<>();
+    private int calls = 0;
+
+    private RandomRunsTest(long seed) {
+        random = new Random(seed);
+    }
+
+    public static void main(String[] args) {
+        int runs = args.length > 0 ? Integer.parseInt(args[0]) : RUNS;
+        int from = args.length > 1 ? Integer.parseInt(args[1]) : 1;
+        int wrong = 0;
+        for (int seed = from; seed < from + runs && wrong < 5; seed++) {
+            if (!new RandomRunsTest(seed).goes(seed)) wrong++;
+        }
+        System.out.println("RandomRunsTest: " + runs + " runs, " + wrong + " wrong");
+        if (wrong != 0) System.exit(1);
+    }
+
+    private boolean goes(int seed) {
+        while (calls < 500) {
+            if (!(random.nextInt(70) == 0 || calls == 0 ? text() : oneCall())) {
+                System.out.println("seed " + seed + ":");
+                for (String line : told.subList(Math.max(0, told.size() - 60), told.size())) System.out.println(line);
+                return false;
+            }
+        }
+        return true;
+    }
+
+    private boolean same(String call, long got, long want) {
+        calls++;
+        told.add("  " + call + " answered " + got + ", due is " + want);
+        return got == want;
+    }
+
+    // -- texts
+
+    private int below(int n) {
+        return random.nextInt(n);
+    }
+
+    private boolean chance(int percent) {
+        return below(100) < percent;
+    }
+
+    private boolean text() {
+        StringBuilder all = new StringBuilder();
+        List<String> ahead = new ArrayList<>();
+        int most = 1 + below(16);
+        for (int k = 0; k < most; k++) {
+            int size = all.length();
+            thing(all, ahead);
+            if (all.length() > 300) {
+                all.setLength(size);
+                break;
+            }
+        }
+        if (chance(15)) spoil(all);
+        told.add("  text: " + all);
+        for (int k = 0; k < all.length(); k += 8) {
+            int n = Math.min(8, all.length() - k);
+            long eight = random.nextLong();
+            for (int j = n - 1; j >= 0; j--) {
+                eight = eight & ~(255L << 8 * j) | (long) all.charAt(k + j) << 8 * j;
+            }
+            if (!same("feed", real.feed(eight, n), plain.feed(eight, n))) return false;
+        }
+        return same("read()", real.read(), plain.read()) && same("fault(0)", real.fault(0), plain.fault(0))
+            && same("fault(1)", real.fault(1), plain.fault(1));
+    }
+
+    private void spoil(StringBuilder all) {
+        String signs = "()[]-+*/<=,;:x0 93 \nZ";
+        for (int k = 1 + below(3); k > 0 && all.length() > 1; k--) {
+            int place = below(all.length());
+            if (chance(40)) all.deleteCharAt(place);
+            else if (chance(50)) all.setCharAt(place, signs.charAt(below(signs.length())));
+            else if (all.length() < 300) all.insert(place, signs.charAt(below(signs.length())));
+        }
+    }
+
+    private void thing(StringBuilder all, List<String> ahead) {
+        String name = NAMES[below(NAMES.length)];
+        boolean known = false;
+        for (String one : ahead) known |= one.endsWith(" " + name);
+        if (known && chance(97)) {
+            name = "" + (char) ('a' + below(26)) + (chance(50) ? "" : "" + (char) ('a' + below(26)));
+            for (String one : ahead) if (one.endsWith(" " + name)) return;
+            if (name.equals("of") || name.equals("to")) return;
+        }
+        String kind = new String[] {"store", "store", "stream", "stream", "stream", "helper", "number", "table",
+            "delay"}[below(9)];
+        all.append(kind).append(' ').append(name);
+        if (kind.equals("stream")) all.append(" from ").append(end(ahead)).append(" to ").append(end(ahead));
+        all.append(chance(10) ? " = " : "=");
+        switch (kind) {
+            case "store", "number" -> all.append(number());
+            case "table" -> corners(all);
+            case "delay" -> all.append(1 + below(9)).append(" of ").append(whole(ahead, 2, 0));
+            default -> all.append(whole(ahead, 3, 0));
+        }
+        all.append(';');
+        ahead.add(kind + " " + name);
+    }
+
+    private String number() {
+        if (chance(60)) return "" + below(12);
+        return "" + (chance(50) ? below(1000) : below(100000));
+    }
+
+    private void corners(StringBuilder all) {
+        int x = below(4);
+        int many = 2 + below(3);
+        for (int k = 0; k < many; k++) {
+            if (k > 0) all.append(',');
+            all.append(x).append(':').append(number());
+            x += (chance(2) ? 0 : 1) + (chance(20) ? below(9000) : below(40));
+        }
+    }
+
+    private String end(List<String> ahead) {
+        List<String> stores = new ArrayList<>();
+        for (String one : ahead) if (one.startsWith("store ")) stores.add(one.substring(6));
+        if (stores.isEmpty() || chance(20)) return chance(2) && !ahead.isEmpty() ? anyName(ahead) : "out";
+        return stores.get(below(stores.size()));
+    }
+
+    private String anyName(List<String> ahead) {
+        String one = ahead.get(below(ahead.size()));
+        return one.substring(one.indexOf(' ') + 1);
+    }
+
+    private String whole(List<String> ahead, int room, int open) {
+        String left = sum(ahead, room, open);
+        return chance(10) ? left + (chance(50) ? "<" : "=") + sum(ahead, room, open) : left;
+    }
+
+    private String sum(List<String> ahead, int room, int open) {
+        StringBuilder all = new StringBuilder(one(ahead, room, open));
+        while (chance(35) && all.length() < 40) all.append("+-*/+-*/**".charAt(below(10))).append(one(ahead, room, open));
+        return all.toString();
+    }
+
+    private String one(List<String> ahead, int room, int open) {
+        int draw = below(100);
+        if (room > 0 && (open < 4 || chance(10))) {
+            if (draw < 8) return "-" + one(ahead, room - 1, open + 1);
+            if (draw < 15) return "(" + whole(ahead, room - 1, open + 1) + ")";
+            if (draw < 20) {
+                return "least(" + whole(ahead, room - 1, open + 1) + "," + whole(ahead, room - 1, open + 1) + ")";
+            }
+        }
+        if (ahead.isEmpty() || draw < 40) return chance(5) ? "99999" : number();
+        String one = ahead.get(below(ahead.size()));
+        String name = one.substring(one.indexOf(' ') + 1);
+        return one.startsWith("table ") ? name + "[" + whole(ahead, room - 1, open + 1) + "]" : name;
+    }
+
+    // -- calls
+
+    private int thing() {
+        return chance(95) ? below(Math.max(1, plain.many(0))) : below(20) - 2;
+    }
+
+    private int kindOf(int kind) {
+        for (int k = 0; k < 12; k++) {
+            int i = thing();
+            if (plain.thing(i, 0) == kind) return i;
+        }
+        return thing();
+    }
+
+    private int any() {
+        int draw = below(10);
+        if (draw < 5) return below(30) - 5;
+        if (draw < 7) return below(200000) - 50000;
+        if (draw < 8) return random.nextInt();
+        return new int[] {Integer.MIN_VALUE, Integer.MAX_VALUE, -1, 0, 1, 999999, Integer.MAX_VALUE - 3}[below(7)];
+    }
+
+    private int steps() {
+        return chance(90) ? below(12) : below(64) - 2;
+    }
+
+    private int few(int most) {
+        return chance(95) ? below(most + 1) : below(most + 5) - 2;
+    }
+
+    private boolean oneCall() {
+        return switch (below(8)) {
+            case 0 -> textCall();
+            case 1, 2 -> stepCall();
+            case 3 -> causeCall();
+            case 4 -> thoughtCall();
+            case 5 -> rowCall();
+            case 6 -> hostCall();
+            default -> chance(70) ? stepCall() : keptCall();
+        };
+    }
+
+    private boolean textCall() {
+        int i = thing();
+        int what = few(3);
+        int name = chance(80) ? plain.thing(i, 1) : any();
+        return same("named(" + name + ")", real.named(name), plain.named(name))
+            && same("thing(" + i + ", " + what + ")", real.thing(i, what), plain.thing(i, what));
+    }
+
+    private boolean stepCall() {
+        int i = thing();
+        int a = steps();
+        int v = any();
+        switch (below(12)) {
+            case 0: return same("value(" + i + ")", real.value(i), plain.value(i));
+            case 1: return same("at(" + i + ", " + a + ")", real.at(i, a), plain.at(i, a));
+            case 2:
+            case 3:
+                int stream = kindOf(3);
+                int what = few(1);
+                return same("flow(" + stream + ", " + what + ")", real.flow(stream, what), plain.flow(stream, what));
+            case 4:
+            case 5:
+            case 6: return same("run(" + a + ")", real.run(a), plain.run(a));
+            case 7: return !chance(30) || same("begin()", real.begin(), plain.begin());
+            case 8:
+                int number = kindOf(5);
+                return same("change(" + number + ", " + v + ")", real.change(number, v), plain.change(number, v));
+            case 9:
+                int other = kindOf(5);
+                int step = plain.many(1) + below(8);
+                return same("event(" + step + ", " + other + ", " + v + ")", real.event(step, other, v),
+                    plain.event(step, other, v));
+            case 10:
+                int of = few(3);
+                return same("sum(" + of + ")", real.sum(of), plain.sum(of));
+            default:
+                int many = few(5);
+                return same("many(" + many + ")", real.many(many), plain.many(many));
+        }
+    }
+
+    private boolean causeCall() {
+        int i = thing();
+        int what = few(6) - 1;
+        switch (below(4)) {
+            case 0: return same("moves(" + i + ")", real.moves(i), plain.moves(i));
+            case 1: return same("reached(" + i + ")", real.reached(i), plain.reached(i));
+            case 2: return same("rings()", real.rings(), plain.rings());
+            default: return same("ring(" + i + ", " + what + ")", real.ring(i, what), plain.ring(i, what));
+        }
+    }
+
+    private boolean thoughtCall() {
+        int n = steps();
+        int number = kindOf(5);
+        int store = kindOf(1);
+        int low = any();
+        int high = low + below(8) - (chance(10) ? 3 : 0) + (chance(5) ? 15 : 0);
+        int sheet = few(3);
+        int what = few(1);
+        switch (below(6)) {
+            case 0:
+                int more = chance(50) ? n : n * 10;
+                return same("rest(" + more + ")", real.rest(more), plain.rest(more));
+            case 1: return same("swing(" + n + ", " + what + ")", real.swing(n, what), plain.swing(n, what));
+            case 2:
+                int thing = thing();
+                return same("pull(" + number + ", " + low + ", " + thing + ", " + n + ")",
+                    real.pull(number, low, thing, n), plain.pull(number, low, thing, n));
+            case 3:
+                return same("best(" + number + ", " + low + ", " + high + ", " + store + ", " + n + ")",
+                    real.best(number, low, high, store, n), plain.best(number, low, high, store, n));
+            case 4:
+                return same("miss(" + store + ", " + sheet + ")", real.miss(store, sheet), plain.miss(store, sheet));
+            default:
+                return same("fit(" + number + ", " + low + ", " + high + ", " + store + ", " + sheet + ")",
+                    real.fit(number, low, high, store, sheet), plain.fit(number, low, high, store, sheet));
+        }
+    }
+
+    private boolean rowCall() {
+        int i = thing();
+        int row = steps();
+        int what = few(1);
+        int v = chance(50) ? plain.row(row, what) : any();
+        switch (below(4)) {
+            case 0: return same("prove(" + i + ")", real.prove(i), plain.prove(i));
+            case 1: return same("row(" + row + ", " + what + ")", real.row(row, what), plain.row(row, what));
+            case 2:
+                return same("alterRow(" + row + ", " + what + ", " + v + ")", real.alterRow(row, what, v),
+                    plain.alterRow(row, what, v));
+            default: return same("judge(" + i + ")", real.judge(i), plain.judge(i));
+        }
+    }
+
+    private boolean hostCall() {
+        int sheet = few(3);
+        int sort = chance(50) ? 2 : few(4) - 1;
+        int i = chance(80) ? below(6) : any();
+        int v = any();
+        int act = few(3);
+        switch (below(9)) {
+            case 0: return same("sheet(" + sheet + ", " + sort + ", " + i + ")", real.sheet(sheet, sort, i),
+                plain.sheet(sheet, sort, i));
+            case 1:
+            case 2: return same("put(" + sheet + ", " + i + ", " + v + ")", real.put(sheet, i, v),
+                plain.put(sheet, i, v));
+            case 3: return same("item(" + sheet + ", " + sort + ", " + i + ")", real.item(sheet, sort, i),
+                plain.item(sheet, sort, i));
+            case 4:
+                int what = chance(60) ? 0 : few(2);
+                int n = what == 0 ? thing() : few(3);
+                return same("shelf(" + sheet + ", " + what + ", " + n + ")", real.shelf(sheet, what, n),
+                    plain.shelf(sheet, what, n));
+            case 5:
+                int as = below(17) - 1;
+                return same("taken(" + sheet + ", " + as + ")", real.taken(sheet, as), plain.taken(sheet, as));
+            case 6:
+            case 7: return same("act(" + sheet + ", " + act + ", " + v + ")", real.act(sheet, act, v),
+                plain.act(sheet, act, v)) && same("many(5)", real.many(5), plain.many(5));
+            default:
+                int k = below(9) - 1;
+                return same("trace(" + k + ")", real.trace(k), plain.trace(k));
+        }
+    }
+
+    private boolean keptCall() {
+        if (chance(50)) return same("keep()", real.keep(), plain.keep());
+        return same("back()", real.back(), plain.back());
+    }
+}
