@@ -678,6 +678,7 @@ public final class StoreStreams {
             return right;
         }
 
+        /** THE FAULT is at this TOKEN: false, so that all rules around it end at once. */
         private boolean wrong(int kind) {
             faultKind = kind;
             faultPlace = start;
@@ -686,6 +687,7 @@ public final class StoreStreams {
 
         // -- tokens
 
+        /** Goes to the next TOKEN; true, so that it can stand among the parts of a rule. */
         private boolean next() {
             while (place < fed && tape[place] == ' ') place++;
             start = place;

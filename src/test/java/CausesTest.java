@@ -23,6 +23,14 @@ public final class CausesTest {
         for (int i : OUTSIDE) Check.due("moves(" + i + ")", x.moves(i), StoreStreams.BAD);
         x.run(5);
         Check.due("moves(0) at another step", x.moves(0), due[0]);
+        for (int k = 0; k < 3; k++) {
+            Check.read(x, "helper a=1;helper b=a;helper c=a;helper d=b;");
+            Check.due("moves(0) of another text", x.moves(0), 6);
+        }
+        for (int k = 0; k < 3; k++) {
+            Check.read(x, "helper a=1;number b=1;table c=0:1,1:2;store d=4;");
+            for (int i = 0; i < 4; i++) Check.due("moves(" + i + ") of none", x.moves(i), 0);
+        }
     }
 
     /** Promise 16. */

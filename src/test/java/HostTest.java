@@ -203,6 +203,9 @@ public final class HostTest {
         acts(x, 0, 9, 14, 10);
         acts(x, 1, 9, 28, 11, 10);
         acts(x, 2, 10, -3 ^ 1, 40, 12);
+        acts(x, 2, 9, -2 ^ 1, 40, 12);
+        acts(x, 2, 1, 0 ^ 1, 40, 12);
+        acts(x, 2, 2, -1 ^ 1, 40, 12);
         acts(x, 3, 9, 29, 13, 11, 10);
         x.shelf(0, 0, 6); // helper, n 6, a 1: units(1) is 1 / -5
         acts(x, 0, 9, 11, 60, 10);
@@ -215,6 +218,10 @@ public final class HostTest {
         y.shelf(0, 0, 2); // delay, n 2, a 1: units(2) is 2 / -1
         acts(y, 3, 9, (65 ^ 1) - 2, 31, 13, 20, 11, 30, 10, 12);
         acts(y, 2, NO, NO, 12);
+        StoreStreams z = Check.with("store a=1;helper aaa=1;");
+        z.shelf(0, 0, 1); // helper, n 1, a 3: units(3) is 3 / 2
+        acts(z, 1, 9, 13, 70, 11, 60, 10, 12);
+        acts(z, 3, 9, (13 ^ 3) * 2, 71, 13, 70, 11, 60, 10, 12);
     }
 
     /** x by 0. */

@@ -95,6 +95,32 @@ public final class KeptTest {
         Check.read(x, "number z=1;");
         Check.due("back() from a third text", x.back(), 2);
         isAsKept(x);
+        wholeText();
+    }
+
+    /** All parts of a text come back, from among texts that have other parts at the same numbers. */
+    private static void wholeText() {
+        String first = "table t=0:3,10:13,20:113;store a=7;stream f from a to a=t[a]-9;stream g from out to a=t[a*2]+a;"
+            + "delay d=2 of least(a,-a)*2;helper h=t[t[4]]<9;";
+        String other = "helper p=5*5-4;helper q=p*(p+1)/3;table r=5:50,6:60;store s=1;stream t from s to out=q+r[6];"
+            + "delay u=9 of p;stream v from s to s=1;";
+        StoreStreams x = Check.with(first);
+        StoreStreams y = Check.with(first);
+        x.keep();
+        for (int k = 0; k < 3; k++) Check.read(x, other);
+        x.run(9);
+        x.back();
+        for (int step = 0; step <= 12; step++) {
+            for (int i = 0; i < 6; i++) {
+                Check.due("value(" + i + ") at " + step, x.value(i), y.value(i));
+                Check.due("moves(" + i + ")", x.moves(i), y.moves(i));
+                for (int what = 0; what <= 3; what++) Check.due("thing(" + i + ")", x.thing(i, what), y.thing(i, what));
+            }
+            x.run(1);
+            y.run(1);
+        }
+        Check.due("rings()", x.rings(), y.rings());
+        Check.due("rings()", x.rings(), 2);
     }
 
     /** What is not kept stays as it is at back(). */

@@ -80,6 +80,10 @@ public final class StepsTest {
         Check.due("u[99998]", x.value(4), 99998);
         Check.due("v[99998]", x.value(6), 1);
         Check.due("value of a TABLE", x.value(1), 0);
+        StoreStreams y = Check.with("table t=0:10,1:20,2:40;helper a=t[1<2];helper b=t[1=2];helper c=t[2];");
+        Check.due("t[1 < 2]", y.value(1), 20);
+        Check.due("t[1 = 2]", y.value(2), 10);
+        Check.due("t[2]", y.value(3), 40);
         StoreStreams two = Check.with("table t=0:10,3:0;helper a=t[1];helper b=t[2];");
         Check.due("10 - 3 (10/3 cut)", two.value(1), 7);
         Check.due("10 - 6 (20/3 cut)", two.value(2), 4);
@@ -112,9 +116,16 @@ public final class StepsTest {
         x.run(9);
         Check.due("f at 9 again", x.value(3), 7);
         StoreStreams y = Check.with("store a=5;stream s from a to out=1;delay d=3 of -a;");
-        x.run(3);
         y.run(5);
         Check.due("a DELAY may be below 0", y.value(2), -3);
+        StoreStreams z = Check.with("delay d=3 of 5;store a=0;stream s from out to a=1;delay e=2 of a;delay f=9 of a;"
+            + "delay g=9 of a*2;delay h=4 of ((((a))))=3;");
+        z.run(3);
+        Check.due("the first THING", z.value(0), 5);
+        z.run(9);
+        int[] due = {5, 12, 1, 10, 3, 6, 0};
+        for (int i = 0; i < 7; i++) Check.due("DELAYS side by side: value(" + i + ")", z.value(i), due[i]);
+        Check.due("h at 7", z.at(6, 7), 1);
     }
 
     private static void valuesOfKinds() {
@@ -188,6 +199,10 @@ public final class StepsTest {
         Check.due("flow(1, -1)", x.flow(1, -1), StoreStreams.BAD);
         Check.due("flow(3, 0)", x.flow(3, 0), StoreStreams.BAD);
         Check.due("flow(-1, 0)", x.flow(-1, 0), StoreStreams.BAD);
+        x = Check.with("stream p from out to out=3;");
+        flow(x, 0, 3, 0);
+        x.run(2);
+        Check.due("CAME by the first THING", x.sum(2), 6);
         x = Check.with("number n=1;store a=5;stream p from a to out=n;");
         x.change(0, 9);
         flow(x, 2, 5, 4);
@@ -233,6 +248,11 @@ public final class StepsTest {
         x.run(60);
         Check.due("SPILLED beyond ints", x.sum(1), 60L * 3999960000L + 10 - 999999);
         Check.due("CAME beyond ints", x.sum(2), 60L * 3999960000L);
+        x.keep();
+        x.begin();
+        Check.due("SPILLED at begin()", x.sum(1), 0);
+        x.back();
+        Check.due("SPILLED at back()", x.sum(1), 60L * 3999960000L + 10 - 999999);
     }
 
     /** Promise 11. */

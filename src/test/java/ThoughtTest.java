@@ -121,6 +121,8 @@ public final class ThoughtTest {
         Check.due("best(0 to 20)", x.best(1, 0, 20, 0, 3), 5);
         Check.due("best(0 to 21)", x.best(1, 0, 21, 0, 3), NO);
         Check.due("best(6 to 9)", x.best(1, 6, 9, 0, 1), 6);
+        Check.due("best is the second", x.best(1, 4, 7, 0, 1), 5);
+        Check.due("best is the last", x.best(1, 2, 4, 0, 1), 4);
         Check.due("best(1 to 1)", x.best(1, 1, 1, 0, 1), 1);
         Check.due("best(1 to 0)", x.best(1, 1, 0, 0, 1), NO);
         Check.due("best of the same, the least", x.best(1, -3, -1, 0, 1), -3);
@@ -185,6 +187,10 @@ public final class ThoughtTest {
         x.run(3);
         Check.due("fit from begin() on", x.fit(1, 0, 20, 0, 0), 3);
         Check.due("fit of one", x.fit(1, 9, 9, 0, 0), 9);
+        Check.due("fit is the second", x.fit(1, 2, 9, 0, 0), 3);
+        Check.due("fit is the last", x.fit(1, 1, 3, 0, 0), 3);
+        Check.due("fit is the last of two", x.fit(1, 2, 3, 0, 0), 3);
+        Check.due("fit of those below 0", x.fit(1, -5, 4, 0, 0), 3);
         Check.due("fit of the same, the least", x.fit(3, -7, 7, 0, 0), -7);
         Check.ints(x, 1, -1, -1);
         Check.due("fit to gaps", x.fit(1, 2, 5, 0, 1), 2);
