@@ -15,6 +15,7 @@ public final class StepsTest {
         changing();
         events();
         sums();
+        sixteenThings();
         Check.end("StepsTest");
     }
 
@@ -332,6 +333,31 @@ public final class StepsTest {
         Check.due("m at 59", x.value(3), 7);
         x.run(1);
         Check.due("m at 60", x.value(3), 8);
+    }
+
+    /** As many THINGS as there may be, with a STORE, a STREAM and a DELAY for the last one. */
+    private static void sixteenThings() {
+        StringBuilder stores = new StringBuilder();
+        for (char c = 'a'; c < 'a' + 14; c++) stores.append("store ").append(c).append("=1;");
+        String[] ends = {"number y=5;store z=2;", "number y=5;stream z from n to m=y;", "number y=5;delay z=2 of a+y;"};
+        int[] values = {2, 5, 6};
+        int[] rest = {0, 1, 0};
+        int[] reached = {0, 1 << 12 | 1 << 13, 0};
+        for (int k = 0; k < 3; k++) {
+            StoreStreams x = Check.with(stores + ends[k]);
+            Check.due("rest(9)", x.rest(9), rest[k]);
+            Check.due("rings()", x.rings(), 0);
+            Check.due("reached(15)", x.reached(15), reached[k]);
+            Check.due("swing(9, 1)", x.swing(9, 1), 1);
+            Check.due("run(2)", x.run(2), 2);
+            Check.due("value(15)", x.value(15), values[k]);
+            Check.due("at(15, 2)", x.at(15, 2), values[k]);
+            Check.due("sum(0)", x.sum(0), k == 0 ? 16 : 14);
+            Check.due("pull(14, 1, 15, 2)", x.pull(14, 1, 15, 2), k == 0 ? 0 : 1);
+            Check.due("value(12)", x.value(12), k == 1 ? 2 : 1);
+            Check.due("prove(15)", x.prove(15), 3);
+            Check.due("judge(15)", x.judge(15), 0);
+        }
     }
 
     /** Promise 14. */

@@ -26,7 +26,7 @@ public final class TextTest {
         Check.due("new: thing(0, 0)", x.thing(0, 0), StoreStreams.BAD);
         Check.due("new: value(0)", x.value(0), StoreStreams.NO);
         Check.due("new: rings()", x.rings(), 0);
-        Check.due("new: sum(0)", x.sum(0), 0);
+        for (int what = 0; what <= 3; what++) Check.due("new: sum(" + what + ")", x.sum(what), 0);
         Check.due("new: back()", x.back(), StoreStreams.NONE);
         Check.due("new: item(0, 0, 0)", x.item(0, 0, 0), -11);
         Check.due("new: taken(3, 0)", x.taken(3, 0), -11);
@@ -95,6 +95,28 @@ public final class TextTest {
         Check.due("many(5): THE TRACE stays", x.many(5), 3);
         Check.due("read() of no bytes", x.read(), 0);
         Check.due("many(0)", x.many(0), 0);
+        nothingOfTheTextAhead();
+    }
+
+    /** A text that is read has nothing of those ahead of it. */
+    private static void nothingOfTheTextAhead() {
+        StoreStreams x = new StoreStreams();
+        for (int k = 0; k < 3; k++) Check.read(x, "number p=77;store q=9;stream r from q to q=q;stream s from q to out=3;");
+        x.run(2);
+        Check.due("rings()", x.rings(), 1);
+        Check.due("read()", Check.read(x, "table t=0:5,1:6;"), 1);
+        Check.due("value(0) of the TABLE", x.value(0), 0);
+        Check.due("sum(0)", x.sum(0), 0);
+        Check.due("sum(3)", x.sum(3), 0);
+        Check.due("rings()", x.rings(), 0);
+        Check.due("moves(0)", x.moves(0), 0);
+        Check.due("reached(0)", x.reached(0), 0);
+        Check.due("rest(9)", x.rest(9), 0);
+        Check.due("run(3)", x.run(3), 3);
+        Check.due("sum(0)", x.sum(0), 0);
+        Check.due("sum(3)", x.sum(3), 0);
+        Check.due("value(1)", x.value(1), StoreStreams.NO);
+        Check.due("named(q)", x.named(Check.name("q")), StoreStreams.NONE);
     }
 
     private static void right(String text) {
@@ -131,6 +153,10 @@ public final class TextTest {
         Check.due("bytes", all300.length(), 300);
         StoreStreams x = Check.with(all300);
         Check.due("value(0) of 145 ones", x.value(0), 145);
+        for (int k = 0; k < 9; k++) {
+            Check.due("read() once more", Check.read(x, all300), 1);
+            Check.due("value(0) of 145 ones", x.value(0), 145);
+        }
     }
 
     private static void faultsOfThings() {
