@@ -102,7 +102,7 @@ public final class KeptTest {
     private static void wholeText() {
         String first = "table t=0:3,10:13,20:113;store a=7;stream f from a to a=t[a]-9;stream g from out to a=t[a*2]+a;"
             + "delay d=2 of least(a,-a)*2;helper h=t[t[4]]<9;";
-        String other = "table r=5:50,6:60,9:9;helper p=5*5-4;helper q=p*(p+1)/3;store s=1;stream t from s to out=q+r[6];"
+        String other = "table r=5:50,6:60;helper p=5*5-4;helper q=p*(p+1)/3;store s=1;stream t from s to out=q+r[6];"
             + "delay u=9 of p;stream v from s to s=1;";
         StoreStreams x = Check.with(first);
         StoreStreams y = Check.with(first);
