@@ -2,8 +2,19 @@
 final class Check {
     private static int right = 0;
     private static int wrong = 0;
+    private static String about = "";
 
     private Check() {
+    }
+
+    /** What the answers from here on are about: it is told with each one that is wrong. */
+    static void about(String what) {
+        about = "[" + what + "] ";
+    }
+
+    /** How many answers there were. */
+    static int answers() {
+        return right + wrong;
     }
 
     static void due(String call, long got, long want) {
@@ -12,7 +23,7 @@ final class Check {
             return;
         }
         wrong++;
-        System.out.println(call + " answered " + got + ", due is " + want);
+        System.out.println(about + call + " answered " + got + ", due is " + want);
     }
 
     /** Prints how many answers were right, and ends with exit code 1 if one was not. */
