@@ -16,8 +16,59 @@ public final class AnyArgumentsTest {
         "helper a=((((1))));helper b=least(least(least(least(a,a),a),a),a);helper c=----b;helper d=a/0;",
         "table t=0:0,1:1;stream s from out to out=t[t[t[t[5]]]];number n=0;store q=0;"};
 
+    /** So few that all of them, two texts and all that a Picture asks of one object are no more than 512. */
+    private static final int CALLS_AHEAD_OF_PICTURES = 120;
+    private static final int CALLS = 380;
+    private static final int READS = 33;
+
+    /** A call by its number; it takes as many of the arguments as it needs. */
+    private record Call(int number, int a, int b, int c, int d, int more) {
+        long on(StoreStreams x) {
+            return switch (number) {
+                case 0 -> x.feed((long) a << 32 ^ b, c);
+                case 1 -> x.run(a);
+                case 2 -> x.event(a, b, c);
+                case 3 -> x.prove(a);
+                case 4 -> x.sheet(a, b, c);
+                case 5 -> x.put(a, b, c);
+                case 6 -> x.shelf(a, b, c);
+                case 7 -> x.begin();
+                case 8 -> x.change(a, b);
+                case 9 -> x.alterRow(a, b, c);
+                case 10 -> x.act(a, b, c);
+                case 11 -> more % 3 == 0 ? x.keep() : x.back();
+                case 12 -> x.fault(a);
+                case 13 -> x.named(a);
+                case 14 -> x.thing(a, b);
+                case 15 -> x.value(a);
+                case 16 -> x.at(a, b);
+                case 17 -> x.flow(a, b);
+                case 18 -> x.sum(a);
+                case 19 -> x.moves(a);
+                case 20 -> x.reached(a);
+                case 21 -> x.rings();
+                case 22 -> x.ring(a, b);
+                case 23 -> x.rest(a);
+                case 24 -> x.swing(a, b);
+                case 25 -> x.pull(a, b, c, d);
+                case 26 -> x.best(a, b, b + more - 2, c, d);
+                case 27 -> x.miss(a, b);
+                case 28 -> x.fit(a, b, b + more - 2, c, d);
+                case 29 -> x.row(a, b);
+                case 30 -> x.judge(a);
+                case 31 -> x.item(a, b, c);
+                case 32 -> x.taken(a, b) + x.trace(b) + x.many(c);
+                default -> Check.read(x, TEXTS[more % TEXTS.length]);
+            };
+        }
+
+        /** Calls from 12 on only ask; calls 0 to 7 answer numbers from 0 on, if they are not refused. */
+        boolean changesNothing(long answer) {
+            return number >= 12 && number < READS || number < 8 && answer < 0;
+        }
+    }
+
     private final Random random;
-    private final StoreStreams x = new StoreStreams();
 
     private AnyArgumentsTest(int seed) {
         random = new Random(seed);
@@ -25,7 +76,7 @@ public final class AnyArgumentsTest {
 
     public static void main(String[] args) {
         for (int seed = 1; seed <= 300; seed++) new AnyArgumentsTest(seed).goes();
-        for (int seed = 301; seed <= 330; seed++) new AnyArgumentsTest(seed).anyBytes();
+        for (int seed = 301; seed <= 3300; seed++) new AnyArgumentsTest(seed).anyBytes();
         Check.end("AnyArgumentsTest");
     }
 
@@ -34,104 +85,42 @@ public final class AnyArgumentsTest {
         return random.nextInt(12) == 0 ? random.nextInt() : EDGES[random.nextInt(EDGES.length)];
     }
 
+    private Call draw(boolean text) {
+        return new Call(text ? READS : random.nextInt(READS), any(), any(), any(), any(), random.nextInt(25));
+    }
+
     private void goes() {
-        for (int k = 0; k < 500; k++) {
-            if (k % 100 == 0) Check.read(x, TEXTS[random.nextInt(TEXTS.length)]);
-            List<Long> was = picture();
-            int call = random.nextInt(33);
-            int a = any();
-            int b = any();
-            int c = any();
-            long answer = answer(call, a, b, c);
-            boolean refused = changesNothing(call) || refusal(call, answer);
-            if (refused && !was.equals(picture())) {
-                Check.due("call " + call + "(" + a + ", " + b + ", " + c + ") that is refused changes something", 1, 0);
-            }
+        StoreStreams x = new StoreStreams();
+        List<Call> ahead = new ArrayList<>();
+        for (int k = 0; k < CALLS; k++) {
+            Call call = draw(k % 60 == 0 && k <= CALLS_AHEAD_OF_PICTURES);
+            long answer = call.on(x);
+            boolean pictured = k < CALLS_AHEAD_OF_PICTURES && random.nextInt(20) == 0;
+            if (pictured && call.changesNothing(answer)) looksTheSame(ahead, call);
+            ahead.add(call);
         }
         Check.due("no call threw", 0, 0);
     }
 
-    /** Calls 0 to 7 answer numbers from 0 on, if they are not refused. */
-    private static boolean refusal(int call, long answer) {
-        return answer < 0 && call < 8;
+    private static StoreStreams behind(List<Call> calls) {
+        StoreStreams x = new StoreStreams();
+        for (Call call : calls) call.on(x);
+        return x;
     }
 
-    private static boolean changesNothing(int call) {
-        return call > 11;
-    }
-
-    private long answer(int call, int a, int b, int c) {
-        switch (call) {
-            case 0: return x.feed((long) a << 32 ^ b, c);
-            case 1: return x.run(a);
-            case 2: return x.event(a, b, c);
-            case 3: return x.prove(a);
-            case 4: return x.sheet(a, b, c);
-            case 5: return x.put(a, b, c);
-            case 6: return x.shelf(a, b, c);
-            case 7: return x.begin();
-            case 8: return x.change(a, b);
-            case 9: return x.alterRow(a, b, c);
-            case 10: return x.act(a, b, c);
-            case 11: return random.nextInt(3) == 0 ? x.keep() : x.back();
-            case 12: return x.fault(a);
-            case 13: return x.named(a);
-            case 14: return x.thing(a, b);
-            case 15: return x.value(a);
-            case 16: return x.at(a, b);
-            case 17: return x.flow(a, b);
-            case 18: return x.sum(a);
-            case 19: return x.moves(a);
-            case 20: return x.reached(a);
-            case 21: return x.rings();
-            case 22: return x.ring(a, b);
-            case 23: return x.rest(a);
-            case 24: return x.swing(a, b);
-            case 25: return x.pull(a, b, c, any());
-            case 26: return x.best(a, b, b + random.nextInt(25) - 2, c, any());
-            case 27: return x.miss(a, b);
-            case 28: return x.fit(a, b, b + random.nextInt(25) - 2, c, any());
-            case 29: return x.row(a, b);
-            case 30: return x.judge(a);
-            case 31: return x.item(a, b, c);
-            default: return x.taken(a, b) + x.trace(b) + x.many(c);
-        }
-    }
-
-    /** All that can be asked without a change. */
-    private List<Long> picture() {
-        List<Long> all = new ArrayList<>();
-        for (int what = 0; what <= 5; what++) all.add((long) x.many(what));
-        for (int what = 0; what <= 3; what++) all.add(x.sum(what));
-        for (int i = 0; i < x.many(0); i++) {
-            all.add((long) x.value(i));
-            all.add((long) x.thing(i, 1));
-            all.add((long) x.flow(i, 0));
-            for (int step = 0; step <= x.many(1); step += 7) all.add((long) x.at(i, step));
-        }
-        for (int k = 0; k < x.many(3); k += 5) {
-            all.add((long) x.row(k, 0));
-            all.add((long) x.row(k, 1));
-        }
-        for (int k = 0; k < x.many(5); k++) all.add((long) x.trace(k));
-        for (int sheet = 0; sheet <= 3; sheet++) {
-            for (int sort = 0; sort <= 3; sort++) {
-                for (int i = 0; i <= 40; i += 10) all.add((long) x.item(sheet, sort, i));
-            }
-            for (int as = 0; as <= 13; as++) all.add((long) x.taken(sheet, as));
-        }
-        all.add((long) x.fault(0));
-        all.add((long) x.fault(1));
-        all.add((long) x.rings());
-        all.add((long) x.rest(70));
-        return all;
+    private static void looksTheSame(List<Call> ahead, Call call) {
+        List<Call> with = new ArrayList<>(ahead);
+        with.add(call);
+        boolean same = Picture.of(() -> behind(ahead)).equals(Picture.of(() -> behind(with)));
+        Check.due(call + " changes something: 0 no, 1 yes", same ? 0 : 1, 0);
     }
 
     /** Texts of drawn bytes and of drawn pieces of texts. */
     private void anyBytes() {
         String[] pieces = {"store ", "stream ", "helper ", "number ", "table ", "delay ", " from ", " to ", "out", " of ",
             "least", "a", "b", "=", ";", "(", ")", "[", "]", "-", "+", "*", "/", "<", ",", ":", "1", "99999", "0", " "};
-        for (int k = 0; k < 400; k++) {
+        StoreStreams x = new StoreStreams();
+        for (int k = 0; k < 7; k++) {
             int most = random.nextInt(60);
             for (int j = 0; j < most; j++) {
                 if (random.nextInt(40) == 0) x.feed(random.nextLong(), 1 + random.nextInt(8));
@@ -141,7 +130,8 @@ public final class AnyArgumentsTest {
             int answer = x.read();
             Check.due("THE TAPE is used up", x.many(4), 0);
             Check.due("fault(0) is as read() tells", x.fault(0), answer < 0 ? -100 - answer : 0);
-            if (x.fault(1) < 0 || x.fault(1) > bytes) Check.due("fault(1)", x.fault(1), bytes);
+            int place = x.fault(1);
+            if (place < 0 || place > bytes) Check.due("fault(1)", place, bytes);
         }
     }
 }

@@ -119,6 +119,8 @@ final class EdgesOfCauses extends Edges {
         due("rings() without THINGS", new StoreStreams().rings(), 0);
         due("rings() without any", WORLD.get().rings(), 0);
         due("rings() of one", with("store a=1;stream f from a to out=a;").rings(), 1);
+        due("rings() of none of 16", with(numbers(16)).rings(), 0);
+        due("rings() of 16", with(numbers(14) + "store y=1;stream z from y to out=y;").rings(), 1);
         StoreStreams x = with("store a=1;store b=1;stream f from a to b=a+b;stream g from b to a=a+b;");
         // a moves f g, b moves f g, f moves a b, g moves a b: 0 2, 0 2 1 3, 0 3, 0 3 1 2, 1 2, 1 3
         due("rings()", x.rings(), 6);

@@ -64,6 +64,50 @@ final class EdgesOfKept extends Edges {
         due("back() to 60", last.back(), 60);
         for (int step = 0; step <= 60; step++) due("at(0, " + step + ")", last.at(0, step), step);
         due("run(1)", last.run(1), FULL);
+        StoreStreams most = with("store a=0;number p=0;stream f from out to a=p;stream g from out to out=p;");
+        most.change(1, MOST);
+        most.run(3);
+        most.keep();
+        most.begin();
+        most.back();
+        due("SPILLED is kept", most.sum(1), 3L * MOST - 999999);
+        due("CAME is kept", most.sum(2), 6L * MOST);
+        due("WENT is kept", most.sum(3), 3L * MOST);
+        wholeTexts();
+    }
+
+    /** All parts of a text come back, from among texts that have other parts at the same numbers. */
+    private static void wholeTexts() {
+        comesBack("table t=0:3,10:13,20:113;store a=7;stream f from a to a=t[a]-9;stream g from out to a=t[a*2]+a;"
+            + "delay d=2 of least(a,-a)*2;helper h=t[t[4]]<9;", 6,
+            "table r=5:50,6:60;helper p=5*5-4;helper q=p*(p+1)/3;store s=1;stream t from s to out=q+r[6];"
+            + "delay u=9 of p;stream v from s to s=1;");
+        comesBack(numbers(7) + "store h=9;stream i from h to out=2;stream j from out to h=1;table k=0:1,9:9;helper l=k[h];"
+            + "delay m=2 of h;delay n=9 of l;store o=5;stream p from o to h=k[o];", 16,
+            numbers(7) + "table q=0:5,1:6;store r=1;store s=2;helper t=7;delay u=1 of t;delay v=1 of t*2;delay w=3 of t*3;"
+            + "stream x from s to out=t;table y=1:1,2:2;");
+    }
+
+    /** A world that is kept at step 1 is behind back() as one that was never left. */
+    private static void comesBack(String first, int things, String other) {
+        StoreStreams x = with(first);
+        StoreStreams y = with(first);
+        x.run(1);
+        y.run(1);
+        x.keep();
+        for (int k = 0; k < 3; k++) Check.read(x, other);
+        x.run(4);
+        due("back()", x.back(), 1);
+        for (int i = 0; i < things; i++) {
+            for (int what = 0; what <= 3; what++) due("thing(" + i + ", " + what + ")", x.thing(i, what), y.thing(i, what));
+            due("moves(" + i + ")", x.moves(i), y.moves(i));
+            due("value(" + i + ")", x.value(i), y.value(i));
+        }
+        x.run(9);
+        y.run(9);
+        for (int i = 0; i < things; i++) {
+            for (int step = 0; step <= 10; step += 2) due("at(" + i + ", " + step + ")", x.at(i, step), y.at(i, step));
+        }
     }
 
     private static void back() {
@@ -80,6 +124,11 @@ final class EdgesOfKept extends Edges {
         Check.feed(x, "table t=0:0,1:1;store s=5;stream u from s to out=t[s];");
         due("read() of another text", x.read(), 4);
         due("back() from another text", x.back(), 2);
+        asKept(x);
+        x.begin();
+        x.change(1, 0);
+        x.run(5);
+        due("back() from another run", x.back(), 2);
         asKept(x);
         x.begin();
         due("keep() at 0", x.keep(), 1);

@@ -111,6 +111,30 @@ final class EdgesOfReading extends Edges {
         for (int k = 0; k < 6; k++) due("event", x.event(60, 0, 1), k);
         due("read()", Check.read(x, "number a=1;store b=1;"), 2);
         due("event: they are none then", x.event(60, 0, 1), 0);
+        nothingOfTextsAhead();
+    }
+
+    /** An object reads text upon text; each is as in an object of its own. */
+    private static void nothingOfTextsAhead() {
+        String longest = "helper h=" + "1+".repeat(144) + "1; ";
+        String[] texts = {"helper h=-1;", "helper h=-1;", "helper h=5;helper i=6;", "helper h=5;helper i=6;",
+            "number p=77;store q=9;stream r from q to q=q;stream s from q to out=p;", "table t=0:5,1:6,2:7;helper h=t[1];",
+            longest, longest, longest, longest, longest, "table t=0:1,1:2;store a=4;",
+            "delay d=2 of 7;number n=3;", "store a=1;number n=3;stream f from out to a=n;delay d=2 of a;", numbers(16)};
+        StoreStreams x = new StoreStreams();
+        for (String text : texts) {
+            StoreStreams alone = with(text);
+            due("read() of " + text, Check.read(x, text), alone.many(0));
+            int count = Math.min(4, alone.many(0));
+            for (int i = 0; i < count; i++) {
+                due("value(" + i + ") in " + text, x.value(i), alone.value(i));
+                due("moves(" + i + ") in " + text, x.moves(i), alone.moves(i));
+            }
+            x.run(3);
+            alone.run(3);
+            for (int i = 0; i < count; i++) due("value(" + i + ") at 3 in " + text, x.value(i), alone.value(i));
+            due("sum(3) in " + text, x.sum(3), alone.sum(3));
+        }
     }
 
     private static void readWrong() {

@@ -137,6 +137,8 @@ final class EdgesOfRows extends Edges {
         due("alterRow(0, 0, NO)", x.alterRow(0, 0, NO), MOST);
         due("row(0, 0)", x.row(0, 0), NO);
         due("row(0, 1)", x.row(0, 1), 10);
+        due("alterRow(2, 1, 4)", x.alterRow(2, 1, 4), 4);
+        due("alterRow(1, 1, 7)", x.alterRow(1, 1, 7), 7);
         due("alterRow(3, 1, -8)", x.alterRow(3, 1, -8), 2);
         due("row(3, 1)", x.row(3, 1), -8);
         due("row(3, 0)", x.row(3, 0), 3);

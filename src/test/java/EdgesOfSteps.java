@@ -92,6 +92,9 @@ final class EdgesOfSteps extends Edges {
         due("value(0)", x.value(0), 0);
         x.run(2);
         values(x, 0, 0, 0, 0);
+        for (int k = 0; k < 3; k++) Check.read(x, "number n=9;");
+        Check.read(x, "table t=0:5,1:6;");
+        due("value(0) where another THING was", x.value(0), 0);
     }
 
     private static void valuesOfDelays() {
@@ -104,6 +107,12 @@ final class EdgesOfSteps extends Edges {
         values(x, 4, 0, 0, 0, 0, 0, 0, 0, 0, 0, 50, 51, 52, 53);
         values(x, 5, 0, 0, 0, 0, 50, 51, 52, 53, 54, 55, 56, 57, 58);
         values(x, 6, 0, -50, -51, -52);
+        StoreStreams first = with("delay d=2 of 7;delay e=9 of 5;delay f=9 of 6;");
+        first.run(10);
+        values(first, 0, 0, 0, 7, 7);
+        due("e at 8", first.at(1, 8), 0);
+        due("e at 9", first.at(1, 9), 5);
+        due("f at 10", first.at(2, 10), 6);
         for (int n = 1; n <= 9; n++) {
             StoreStreams y = with("number k=7;delay d=" + n + " of k;");
             y.run(n - 1 > 0 ? n - 1 : 1);
@@ -222,6 +231,11 @@ final class EdgesOfSteps extends Edges {
         table("0:0,99999:99998", new int[] {99998, 99997}, new int[] {1, 0});
         table("0:99998,99999:0", new int[] {1, 99998}, new int[] {99998, 99998 - 99997});
         table("5:7,9:7", new int[] {6, 7});
+        StoreStreams last = with(numbers(14) + "table y=0:3,4:7;helper z=y[2]*10+y[9];");
+        due("a TABLE that is THING 14", last.value(15), 57);
+        Check.read(last, numbers(14) + "helper y=3;table z=0:3,1:4,2:5,3:6,4:7,5:8;");
+        due("a TABLE that is THING 15", last.value(15), 0);
+        table("0:0,1:9,2:3,3:8,4:4,5:7", new int[] {1, 9}, new int[] {2, 3}, new int[] {3, 8}, new int[] {4, 4});
         table("0:0,10:100,20:0,30:50,40:50,50:1", new int[] {5, 50}, new int[] {10, 100}, new int[] {15, 50},
             new int[] {20, 0}, new int[] {29, 45}, new int[] {35, 50}, new int[] {41, 46}, new int[] {49, 6});
     }
@@ -317,6 +331,14 @@ final class EdgesOfSteps extends Edges {
         x.run(1);
         due("CAME", x.sum(2), 10);
         due("WENT", x.sum(3), 11);
+        StoreStreams first = with("stream f from out to out=3;store a=1;");
+        due("flow(0, 0)", first.flow(0, 0), 3);
+        first.run(2);
+        due("CAME by THING 0", first.sum(2), 6);
+        due("WENT by THING 0", first.sum(3), 6);
+        StoreStreams last = with(numbers(14) + "store y=9;stream z from y to out=4;");
+        last.run(2);
+        due("WENT by THING 15", last.sum(3), 8);
         StoreStreams cut = with("store a=5;stream f from a to out=9;");
         cut.run(3);
         due("WENT, cut", cut.sum(3), 5);

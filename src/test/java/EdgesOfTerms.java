@@ -37,7 +37,7 @@ final class EdgesOfTerms extends Edges {
         Check.read(z, dear);
         int calls = (dear.length() + 7) / 8 + 1;
         int best = z.best(1, 0, 20, 0, 60);
-        for (calls++; calls < 512; calls++) due("call " + calls, z.best(1, 0, 20, 0, 60), best);
+        for (calls++; calls < 511; calls++) due("call " + calls, z.best(1, 0, 20, 0, 60), best);
         due("call 512", z.many(0), 8);
     }
 

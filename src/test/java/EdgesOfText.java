@@ -169,6 +169,16 @@ final class EdgesOfText extends Edges {
         faulty(1, "store a=|-1;");
         faulty(1, "number a=|b;");
         faulty(1, "store a=1|+1;");
+        for (String kind : List.of("store", "number", "helper", "table", "delay")) faulty(1, kind + " a|;");
+        faulty(1, "stream a|;");
+        faulty(1, "stream a from out to out|;");
+        faulty(1, "table t=1:1,2|;");
+        faulty(1, "table t=1:1,2|,3:3;");
+        fine("delay d=1 of 1<2;stream s from out to out=1<2;helper h=1<2;");
+        fine("delay d=1 of ((((1))));stream s from out to out=((((1))));helper h=((((1))));");
+        faulty(1, "delay d=1 of ((((|(1)))));");
+        faulty(1, "stream s from out to out=((((|(1)))));");
+        faulty(1, "helper h=((((|(1)))));");
     }
 
     private static void ends() {
@@ -358,6 +368,8 @@ final class EdgesOfText extends Edges {
             faulty(2, form + "number |a=1;");
         }
         faulty(2, "store abcde=1;store |abcde=1;");
+        faulty(2, "store a=1;store b=1;store c=1;store |b=1;");
+        faulty(2, numbers(15) + "number |o=1;");
         fine("store abcde=1;store abcd=1;store abcdf=1;store ab=1;store ba=1;");
         faulty(2, "helper h=|h;");
         faulty(2, "helper h=|i;helper i=1;");

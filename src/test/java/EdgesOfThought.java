@@ -127,6 +127,8 @@ final class EdgesOfThought extends Edges {
         due("of several the least", y.best(1, 0, 9, 0, 3), 4);
         due("of several the least from 5 on", y.best(1, 5, 9, 0, 3), 6);
         due("no step: all the same", y.best(1, 2, 9, 0, 0), 2);
+        StoreStreams drains = with("store a=99;number k=0;stream f from a to out=10-k;");
+        due("what it holds n steps on, not sooner", drains.best(1, 0, 5, 0, 5), 5);
         StoreStreams full = with("store a=0;number k=0;stream f from out to a=k*99999*10;");
         due("what SPILLS doesn't count", full.best(1, 0, 9, 0, 4), 1);
     }
@@ -173,6 +175,7 @@ final class EdgesOfThought extends Edges {
         due("low itself", x.fit(1, 3, 10, 0, 0), 3);
         due("high itself", x.fit(1, 0, 3, 0, 0), 3);
         due("one value", x.fit(1, 9, 9, 0, 0), 9);
+        due("from below 0 on", x.fit(1, -10, 3, 0, 0), 3);
         x.change(3, 8);
         x.run(5);
         due("the other NUMBERS as the text has them", x.fit(1, 0, 10, 0, 0), 3);
@@ -197,6 +200,7 @@ final class EdgesOfThought extends Edges {
         StoreStreams far = with("store a=50000;stream f from a to out=250;");
         due("rest(200), at the last", far.rest(200), 200);
         due("rest(0) at once", with("store a=1;").rest(0), 0);
+        due("rest(9) of 16 THINGS", with(numbers(14) + "store y=9;stream z from y to out=4;").rest(9), 3);
     }
 
     private static void restRefused() {
@@ -219,6 +223,8 @@ final class EdgesOfThought extends Edges {
         // 0 at 59, and still 0 at 60
         swing(far, 60, 60, 1);
         swing(far, 59, NONE, NONE);
+        swing(with(numbers(14) + "store y=9;stream z from y to out=4;"), 60, 4, 1);
+        swing(with(numbers(15) + "store z=9;"), 60, 1, 1);
     }
 
     private static void swingRefused() {
@@ -236,6 +242,7 @@ final class EdgesOfThought extends Edges {
 
     private static void pull() {
         says("Promise 21", "PULL of a NUMBER on a THING behind n (0 to 60) steps: the difference wraps.");
+        due("of THING 0 on THING 15", with(numbers(15) + "helper z=a*3;").pull(0, 7, 15, 0), 21);
         StoreStreams x = with("store a=0;number k=0;stream f from out to a=k;helper h=k*2;helper i=-k;");
         due("n = 0", x.pull(1, 7, 1, 0), 7);
         due("n = 60", x.pull(1, 7, 0, 60), 420);
@@ -274,6 +281,7 @@ final class EdgesOfThought extends Edges {
         due("MOST alone", x.best(1, MOST, MOST, 0, 1), MOST);
         due("the lowest ints", x.best(1, NO + 1, NO + 21, 0, 1), NO + 1);
         due("from below 0 on", x.best(1, -10, 10, 0, 1), 10);
+        due("a NUMBER that is THING 0", with("number k=0;store a=0;stream f from out to a=k;").best(0, 0, 9, 1, 1), 9);
         due("value(1): it stays", x.value(1), 0);
     }
 
@@ -339,6 +347,9 @@ final class EdgesOfThought extends Edges {
         due("the highest ints: all is gone at once", x.fit(1, MOST - 20, MOST, 0, 0), MOST - 20);
         due("the lowest ints", x.fit(1, NO + 1, NO + 21, 0, 1), NO + 1);
         due("low is high", x.fit(1, 7, 7, 0, 0), 7);
+        StoreStreams first = with("number w=4;store a=10;stream f from a to out=w;");
+        Check.ints(first, 0, 10, 8);
+        due("a NUMBER that is THING 0", first.fit(0, 0, 20, 1, 0), 2);
         due("value(1): it stays", x.value(1), 4);
     }
 

@@ -110,7 +110,7 @@ public final class KeptTest {
         for (int k = 0; k < 3; k++) Check.read(x, other);
         x.run(9);
         x.back();
-        for (int step = 0; step <= 12; step++) {
+        for (int step = 0; step <= 8; step++) {
             for (int i = 0; i < 6; i++) {
                 Check.due("value(" + i + ") at " + step, x.value(i), y.value(i));
                 Check.due("moves(" + i + ")", x.moves(i), y.moves(i));

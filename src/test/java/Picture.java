@@ -36,7 +36,8 @@ final class Picture {
         for (int what = 0; what <= 1; what++) add(x.fault(what));
         for (int what = 0; what <= 3; what++) add(x.sum(what));
         int steps = Math.min(x.many(1), 15);
-        for (int i = 0; i < x.many(0); i++) {
+        int count = x.many(0);
+        for (int i = 0; i < count; i++) {
             for (int what = 0; what <= 3; what++) add(x.thing(i, what));
             add(x.value(i));
             for (int what = 0; what <= 1; what++) add(x.flow(i, what));
@@ -45,7 +46,8 @@ final class Picture {
     }
 
     private void causes(StoreStreams x) {
-        for (int i = 0; i < x.many(0); i++) {
+        int count = x.many(0);
+        for (int i = 0; i < count; i++) {
             add(x.moves(i));
             add(x.reached(i));
         }
@@ -79,7 +81,8 @@ final class Picture {
         for (int k = 0; k < many; k++) {
             for (int what = 0; what <= 1; what++) add(x.row(k, what));
         }
-        for (int i = 0; i < x.many(0); i++) add(x.judge(i));
+        int count = x.many(0);
+        for (int i = 0; i < count; i++) add(x.judge(i));
     }
 
     private void sheet(StoreStreams x, int sheet) {
@@ -107,10 +110,11 @@ final class Picture {
 
     /** What EVENTS there are shows in the steps to come, and in those from begin() on. */
     private void onward(StoreStreams x) {
+        int count = x.many(0);
         for (int round = 0; round <= 1; round++) {
             for (int step = x.many(1); step < 12; step++) {
                 add(x.run(1));
-                for (int i = 0; i < x.many(0); i++) add(x.value(i));
+                for (int i = 0; i < count; i++) add(x.value(i));
             }
             add(x.begin());
         }

@@ -5,6 +5,9 @@ import java.util.Random;
 /** Runs of drawn calls (always the same ones) on the class and on the plain model: all answers must be the same. */
 public final class RandomRunsTest {
     private static final int RUNS = 1500;
+
+    /** A text more may come ahead of this: 38 calls that feed it and three, so that no object has more than 512. */
+    private static final int CALLS = 470;
     private static final String[] NAMES = {"a", "b", "c", "ab", "lake", "river", "k", "zz", "tab", "d", "e", "f", "g",
         "h", "i", "j", "l", "m", "n", "o", "p", "q"};
 
@@ -30,7 +33,7 @@ public final class RandomRunsTest {
     }
 
     private boolean goes(int seed) {
-        while (calls < 500) {
+        while (calls < CALLS) {
             if (!(random.nextInt(70) == 0 || calls == 0 ? text() : oneCall())) {
                 System.out.println("seed " + seed + ":");
                 for (String line : told.subList(Math.max(0, told.size() - 60), told.size())) System.out.println(line);
