@@ -14,9 +14,6 @@ abstract class Edges {
     static final int NO = StoreStreams.NO;
     static final int MOST = Integer.MAX_VALUE;
 
-    /** Numbers that are no number of anything there are up to 16 of. */
-    static final int[] OUTSIDE = {-1, 16, NO, MOST};
-
     private static final Map<Supplier<StoreStreams>, List<Long>> PICTURES = new IdentityHashMap<>();
     private static Document document;
     private static String latest = "";
