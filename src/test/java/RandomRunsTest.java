@@ -8,10 +8,9 @@ public final class RandomRunsTest {
 
     /** A text more may come ahead of this: 38 calls that feed it and three, so that no object has more than 512. */
     private static final int CALLS = 470;
-    private static final String[] NAMES = {"a", "b", "c", "ab", "lake", "river", "k", "zz", "tab", "d", "e", "f", "g",
-        "h", "i", "j", "l", "m", "n", "o", "p", "q"};
 
     private final Random random;
+    private final DrawnText texts;
     private final StoreStreams real = new StoreStreams();
     private final PlainModel plain = new PlainModel();
     private final List<String> told = new ArrayList<>();
@@ -19,6 +18,7 @@ public final class RandomRunsTest {
 
     private RandomRunsTest(long seed) {
         random = new Random(seed);
+        texts = new DrawnText(random);
     }
 
     public static void main(String[] args) {
@@ -49,8 +49,6 @@ public final class RandomRunsTest {
         return got == want;
     }
 
-    // -- texts
-
     private int below(int n) {
         return random.nextInt(n);
     }
@@ -60,18 +58,9 @@ public final class RandomRunsTest {
     }
 
     private boolean text() {
-        StringBuilder all = new StringBuilder();
-        List<String> ahead = new ArrayList<>();
-        int most = 1 + below(16);
-        for (int k = 0; k < most; k++) {
-            int size = all.length();
-            thing(all, ahead);
-            if (all.length() > 300) {
-                all.setLength(size);
-                break;
-            }
-        }
-        if (chance(15)) spoil(all);
+        StringBuilder all = texts.text();
+        if (chance(8)) texts.spoilBytes(all);
+        else if (chance(8)) texts.spoilTokens(all);
         told.add("  text: " + all);
         for (int k = 0; k < all.length(); k += 8) {
             int n = Math.min(8, all.length() - k);
@@ -83,93 +72,6 @@ public final class RandomRunsTest {
         }
         return same("read()", real.read(), plain.read()) && same("fault(0)", real.fault(0), plain.fault(0))
             && same("fault(1)", real.fault(1), plain.fault(1));
-    }
-
-    private void spoil(StringBuilder all) {
-        String signs = "()[]-+*/<=,;:x0 93 \nZ";
-        for (int k = 1 + below(3); k > 0 && all.length() > 1; k--) {
-            int place = below(all.length());
-            if (chance(40)) all.deleteCharAt(place);
-            else if (chance(50)) all.setCharAt(place, signs.charAt(below(signs.length())));
-            else if (all.length() < 300) all.insert(place, signs.charAt(below(signs.length())));
-        }
-    }
-
-    private void thing(StringBuilder all, List<String> ahead) {
-        String name = NAMES[below(NAMES.length)];
-        boolean known = false;
-        for (String one : ahead) known |= one.endsWith(" " + name);
-        if (known && chance(97)) {
-            name = "" + (char) ('a' + below(26)) + (chance(50) ? "" : "" + (char) ('a' + below(26)));
-            for (String one : ahead) if (one.endsWith(" " + name)) return;
-            if (name.equals("of") || name.equals("to")) return;
-        }
-        String kind = new String[] {"store", "store", "stream", "stream", "stream", "helper", "number", "table",
-            "delay"}[below(9)];
-        all.append(kind).append(' ').append(name);
-        if (kind.equals("stream")) all.append(" from ").append(end(ahead)).append(" to ").append(end(ahead));
-        all.append(chance(10) ? " = " : "=");
-        switch (kind) {
-            case "store", "number" -> all.append(number());
-            case "table" -> corners(all);
-            case "delay" -> all.append(1 + below(9)).append(" of ").append(whole(ahead, 2, 0));
-            default -> all.append(whole(ahead, 3, 0));
-        }
-        all.append(';');
-        ahead.add(kind + " " + name);
-    }
-
-    private String number() {
-        if (chance(60)) return "" + below(12);
-        return "" + (chance(50) ? below(1000) : below(100000));
-    }
-
-    private void corners(StringBuilder all) {
-        int x = below(4);
-        int many = 2 + below(3);
-        for (int k = 0; k < many; k++) {
-            if (k > 0) all.append(',');
-            all.append(x).append(':').append(number());
-            x += (chance(2) ? 0 : 1) + (chance(20) ? below(9000) : below(40));
-        }
-    }
-
-    private String end(List<String> ahead) {
-        List<String> stores = new ArrayList<>();
-        for (String one : ahead) if (one.startsWith("store ")) stores.add(one.substring(6));
-        if (stores.isEmpty() || chance(20)) return chance(2) && !ahead.isEmpty() ? anyName(ahead) : "out";
-        return stores.get(below(stores.size()));
-    }
-
-    private String anyName(List<String> ahead) {
-        String one = ahead.get(below(ahead.size()));
-        return one.substring(one.indexOf(' ') + 1);
-    }
-
-    private String whole(List<String> ahead, int room, int open) {
-        String left = sum(ahead, room, open);
-        return chance(10) ? left + (chance(50) ? "<" : "=") + sum(ahead, room, open) : left;
-    }
-
-    private String sum(List<String> ahead, int room, int open) {
-        StringBuilder all = new StringBuilder(one(ahead, room, open));
-        while (chance(35) && all.length() < 40) all.append("+-*/+-*/**".charAt(below(10))).append(one(ahead, room, open));
-        return all.toString();
-    }
-
-    private String one(List<String> ahead, int room, int open) {
-        int draw = below(100);
-        if (room > 0 && (open < 4 || chance(10))) {
-            if (draw < 8) return "-" + one(ahead, room - 1, open + 1);
-            if (draw < 15) return "(" + whole(ahead, room - 1, open + 1) + ")";
-            if (draw < 20) {
-                return "least(" + whole(ahead, room - 1, open + 1) + "," + whole(ahead, room - 1, open + 1) + ")";
-            }
-        }
-        if (ahead.isEmpty() || draw < 40) return chance(5) ? "99999" : number();
-        String one = ahead.get(below(ahead.size()));
-        String name = one.substring(one.indexOf(' ') + 1);
-        return one.startsWith("table ") ? name + "[" + whole(ahead, room - 1, open + 1) + "]" : name;
     }
 
     // -- calls
